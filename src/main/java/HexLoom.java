@@ -605,13 +605,11 @@ public final class HexLoom {
             segmented = false;
         }
 
-        @Override
         void restart() {
             base = 0;
             segmented = false;
         }
 
-        @Override
         int faultOf(TypedText text, Draft draft, Image image) {
             int fault = faultOfForm(text);
             if (fault != NO_FAULT) {
@@ -677,7 +675,6 @@ public final class HexLoom {
             }
         }
 
-        @Override
         long addressOfData(long first, int i) {
             long offset = segmented ? (first + i) & HALF_MASK : first + i;
             return (base + offset) & ADDRESS_MASK;
@@ -697,12 +694,10 @@ public final class HexLoom {
             dataRecords = 0;
         }
 
-        @Override
         void restart() {
             dataRecords = 0;
         }
 
-        @Override
         int faultOf(TypedText text, Draft draft, Image image) {
             int fault = faultOfForm(text);
             if (fault != NO_FAULT) {
@@ -769,7 +764,6 @@ public final class HexLoom {
             return type < S_NUMBER || n == 0;
         }
 
-        @Override
         long addressOfData(long first, int i) {
             return first + i <= ADDRESS_MASK ? first + i : NONE;
         }
@@ -783,7 +777,6 @@ public final class HexLoom {
         private boolean writing;
         private int sum;
         private long upperHalf;
-        private int cuts;
 
         Teller() {
             told = new byte[MOST_TOLD];
@@ -792,7 +785,6 @@ public final class HexLoom {
             writing = false;
             sum = 0;
             upperHalf = 0;
-            cuts = 0;
         }
 
         int length() {
@@ -868,8 +860,9 @@ public final class HexLoom {
         private void sRecords(Image image, long start, int wide) {
             long startOrZero = start == NONE ? 0 : start;
             int type = typeFor(Math.max(image.addressOf(image.size() - 1), startOrZero));
-            emptyS(S_HEADER, 2, 0);
-            cuts = 0;
+            openS(S_HEADER, 0, 2, 0);
+            closeS();
+            int cuts = 0;
             int first = 0;
             for (int i = 1; i <= image.size() && at <= MOST_TOLD; i++) {
                 if (i - first == wide || !image.continuesRun(i)) {
@@ -880,8 +873,10 @@ public final class HexLoom {
                     first = i;
                 }
             }
-            emptyS(S_NUMBER, 2, cuts);
-            emptyS(10 - type, type + 1, startOrZero);
+            openS(S_NUMBER, 0, 2, cuts);
+            closeS();
+            openS(10 - type, 0, type + 1, startOrZero);
+            closeS();
         }
 
         /** The first data type that can tell an address; its own addresses have type + 1 bytes. */
@@ -890,11 +885,6 @@ public final class HexLoom {
                 return 1;
             }
             return highest <= 0xFFFFFFL ? 2 : 3;
-        }
-
-        private void emptyS(int type, int width, long address) {
-            openS(type, 0, width, address);
-            closeS();
         }
 
         private void openS(int type, int n, int width, long address) {

@@ -200,6 +200,8 @@ public final class HexLoomPromises {
         reads(x, 0, "  ", 10, 0);
         reads(x, 0, colon("01000000aB").toLowerCase() + " " + COLON_END, 0, -1);
         due("digits of both cases", x.get(0), 0xAB);
+        reads(x, 0, colon("06000100abcdefABCDEF") + " :00000001ff", 0, -1);
+        due("digits of both cases", x.get(3), 0xEF);
     }
 
     private static void readColon() {
@@ -213,6 +215,11 @@ public final class HexLoomPromises {
         due("what was there stays", x.get(9), 9);
         due("bytes", x.count(0), 3);
         due("no start", x.start(), -1);
+        reads(x, 0, colon("0100050033") + " " + colon("0100040044") + " " + COLON_END, 0, -1);
+        due("over the first of all", x.get(5), 0x33);
+        due("before the first of all", x.get(4), 0x44);
+        due("bytes", x.count(0), 4);
+        due("check()", x.check(), 1);
 
         x = new HexLoom();
         reads(x, 0, colon("02FFFF000102") + " " + COLON_END, 0, -1);
@@ -341,6 +348,7 @@ public final class HexLoomPromises {
         faulty(1, s(7, "000000"), 3, 0);
         faulty(1, s(8, "0000"), 3, 0);
         faulty(1, s(4, "0000"), 4, 0);
+        faulty(1, s(6, "0000"), 4, 0);
         faulty(1, s(6, "000000"), 4, 0);
         faulty(1, s(5, "000000"), 4, 0);
         faulty(1, s(7, "0000000000"), 4, 0);
@@ -633,6 +641,9 @@ public final class HexLoomPromises {
         due("run 3", x.run(3, 1), -1);
         due("run -1", x.run(-1, 0), -1);
         due("run MIN", x.run(Integer.MIN_VALUE, 1), -1);
+        x.set(100, 0);
+        due("a run of one", x.run(1, 0), 100);
+        due("a run of one", x.run(1, 1), 1);
         due("what 2", x.run(0, 2), -1);
         due("what -1", x.run(0, -1), -1);
     }
@@ -804,7 +815,11 @@ public final class HexLoomPromises {
             due("check()", x.check(), 1);
         }
         x.clear();
-        due("check()", x.check(), 1);
+        due("check() of none", x.check(), 1);
+        x.set(LAST, 255);
+        x.set(0, 0);
+        due("check() at both ends", x.check(), 1);
+        due("check() of all", brimming().check(), 1);
     }
 
     private static void constants() {
