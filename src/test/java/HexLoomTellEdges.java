@@ -35,6 +35,15 @@ public final class HexLoomTellEdges extends Edges {
         tells(x, 0, 3, data(0xFFFE, "0101"), upperHalf("0001"), data(0, "0101"), COLON_END);
         tells(x, 1, 32, s(0, "0000"), s(2, "00FFFE01010101"), s(5, "0001"), s(8, "000000"));
 
+        x = new Loom();
+        x.fill(0xFFFFFF, 2, 1);
+        tells(x, 0, 2, upperHalf("00FF"), data(0xFFFF, "01"), upperHalf("0100"), data(0, "01"), COLON_END);
+        tells(x, 1, 2, s(0, "0000"), s(3, "00FFFFFF0101"), s(5, "0001"), s(7, "00000000"));
+        x = new Loom();
+        x.fill(0xFFFC, 8, 1);
+        tells(x, 0, 3, data(0xFFFC, "010101"), data(0xFFFF, "01"), upperHalf("0001"), data(0, "010101"), data(3, "01"),
+                COLON_END);
+
         says("when its upper half is not the one told before (0 at first), a record of type 4 with it, offset 0");
         x = new Loom();
         x.set(0xFFFF, 1);
@@ -69,7 +78,7 @@ public final class HexLoomTellEdges extends Edges {
             return;
         }
         Loom x = new Loom();
-        x.fill(0x100, many, 0xA5);
+        x.fill(0xFE, many, 0xA5);
         List<String> records = new ArrayList<>();
         if (kind == 1) {
             records.add(s(0, "0000"));
@@ -77,7 +86,7 @@ public final class HexLoomTellEdges extends Edges {
         int cuts = 0;
         for (int at = 0; at < many; at += wide) {
             String bytes = "A5".repeat(Math.min(wide, many - at));
-            records.add(kind == 0 ? data(0x100 + at, bytes) : s(1, String.format("%04X", 0x100 + at) + bytes));
+            records.add(kind == 0 ? data(0xFE + at, bytes) : s(1, String.format("%04X", 0xFE + at) + bytes));
             cuts++;
         }
         if (kind == 1) {

@@ -174,6 +174,18 @@ public final class HexLoomTextEdges extends Edges {
         due("the last segment, at 0x10FFEF", x.get(0x10FFEF), 1);
         due("the last segment, at 0xFFFF0", x.get(0xFFFF0), 2);
 
+        says("THE BASE: types 2 and 4 alone tell it, and tell no start");
+        x = taken(0, segment("1000"), colon(0, 3, "00020003"), data(0xFFFF, "0102"), COLON_END);
+        due("behind a segment and type 3", x.get(0x10000), 2);
+        x = taken(0, segment("1000"), colon(0, 5, "00020003"), data(0xFFFF, "0102"), COLON_END);
+        due("behind a segment and type 5", x.get(0x10000), 2);
+        x = taken(0, upperHalf("1000"), colon(0, 3, "00020003"), data(0xFFFF, "0102"), COLON_END);
+        due("behind an upper half and type 3", x.get(0x10010000), 2);
+        x = taken(0, upperHalf("1000"), colon(0, 5, "00020003"), data(0xFFFF, "0102"), COLON_END);
+        due("behind an upper half and type 5", x.get(0x10010000), 2);
+        due("no start by a segment alone", taken(0, segment("1234"), COLON_END).start(), -1);
+        due("no start by an upper half alone", taken(0, upperHalf("1234"), COLON_END).start(), -1);
+
         says("all without what is over 32 bits");
         x = taken(0, upperHalf("FFFF"), data(0xFFFF, "010203"), COLON_END);
         due("the last address", x.get(LAST), 1);
@@ -497,6 +509,31 @@ public final class HexLoomTextEdges extends Edges {
         refuses(1, 10, 2, s(1, "004D55"), s(1, "00C866"));
     }
 
+    /** All texts of bytes at some of 10 .. 13, over all images of bytes at some of them. */
+    private static void layersOver() {
+        for (int image = 0; image < 16; image++) {
+            for (int text = 0; text < 16; text++) {
+                Loom x = new Loom();
+                StringBuilder records = new StringBuilder();
+                for (int i = 0; i < 4; i++) {
+                    if ((image >> i & 1) == 1) {
+                        x.set(10 + i, 20 + i);
+                    }
+                    if ((text >> 3 - i & 1) == 1) {
+                        records.append(data(13 - i, two(0x53 - i))).append(' ');
+                    }
+                }
+                takes(x, 0, records + COLON_END);
+                for (int i = 0; i < 4; i++) {
+                    int before = (image >> i & 1) == 1 ? 20 + i : -1;
+                    int want = (text >> i & 1) == 1 ? 0x50 + i : before;
+                    due("image " + image + ", text " + text + ", get(" + (10 + i) + ")", x.get(10 + i), want);
+                }
+                due("image " + image + ", text " + text + ", count(0)", x.count(0), Integer.bitCount(image | text));
+            }
+        }
+    }
+
     private static void readWithoutAFault() {
         says("Otherwise the text's bytes stand in the image, over those that were there");
         Loom x = new Loom();
@@ -512,6 +549,7 @@ public final class HexLoomTextEdges extends Edges {
         }
         due("count(0)", x.count(0), at.length);
         due("count(1)", x.count(1), 3);
+        layersOver();
 
         says("and the start becomes that of the last record that tells one, if any does");
         due("none before, none told", x.start(), -1);

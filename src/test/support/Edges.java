@@ -17,7 +17,7 @@ abstract class Edges {
         }
     }
 
-    /** What the document says, word for word, of the checks that follow. */
+    /** What the document says of the checks that follow, in its words as far as they stand in one place. */
     static void says(String words) {
         sentence = words;
     }
