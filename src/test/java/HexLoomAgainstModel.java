@@ -30,6 +30,9 @@ public final class HexLoomAgainstModel {
     }
 
     private static final class Runner {
+        private static final int[] WILD = {Integer.MIN_VALUE, Integer.MIN_VALUE + 1, -65536, -257, -256, -2, -1, 0, 1,
+            2, 3, 9, 255, 256, 257, 3000, 8000, 12000, 65535, 65536, Integer.MAX_VALUE - 1, Integer.MAX_VALUE};
+
         private final int seed;
         private final int[] faults;
         private final Random random;
@@ -64,9 +67,14 @@ public final class HexLoomAgainstModel {
             }
         }
 
+        /** No call may throw or go astray, whatever the number is. */
+        private int orWild(int usual) {
+            return random.nextInt(40) == 0 ? WILD[random.nextInt(WILD.length)] : usual;
+        }
+
         private int address() {
             long spread = random.nextInt(4) == 0 ? 600 : 40;
-            return (int) (centres.get(random.nextInt(centres.size())) + random.nextLong() % spread);
+            return orWild((int) (centres.get(random.nextInt(centres.size())) + random.nextLong() % spread));
         }
 
         private int blockLength() {
@@ -83,9 +91,9 @@ public final class HexLoomAgainstModel {
 
         private void step() {
             int a = address();
-            int n = blockLength();
-            int v = byteValue();
-            switch (random.nextInt(20)) {
+            int n = orWild(blockLength());
+            int v = orWild(byteValue());
+            switch (random.nextInt(21)) {
                 case 0, 1, 2: due("set(" + a + ", " + v + ")", x.set(a, v), m.fill(a, 1, v)); break;
                 case 3: due("drop(" + a + ")", x.drop(a), m.drop(a)); break;
                 case 4: due("get(" + a + ")", x.get(a), m.get(a)); break;
@@ -103,30 +111,45 @@ public final class HexLoomAgainstModel {
                     break;
                 case 8: if (random.nextInt(30) == 0) due("clear()", x.clear(), m.clear()); break;
                 case 9:
-                    int way = random.nextInt(4) - 1;
+                    int way = orWild(random.nextInt(4) - 1);
                     due("begin(" + way + ", " + a + ")", x.begin(way, a), m.begin(way, a));
                     break;
                 case 10: due("start()", x.start(), m.start); break;
                 case 11, 12:
-                    int what = random.nextInt(6) - 1;
+                    int what = orWild(random.nextInt(6) - 1);
                     due("count(" + what + ")", x.count(what), m.count(what));
                     break;
                 case 13:
-                    int i = random.nextInt(12) - 1;
-                    int which = random.nextInt(3);
+                    int i = orWild(random.nextInt(12) - 1);
+                    int which = orWild(random.nextInt(3));
                     due("run(" + i + ", " + which + ")", x.run(i, which), m.run(i, which));
                     break;
                 case 14: due("next(" + a + ")", x.next(a), m.next(a)); break;
                 case 15: telling(); break;
                 case 16: due("check()", x.check(), 1); break;
                 case 17: due("place()", x.place(), m.place); break;
+                case 18:
+                    int at = orWild(random.nextInt(m.told.length() + 10) - 5);
+                    boolean there = at >= 0 && at < m.told.length();
+                    due("character(" + at + ")", x.character(at), there ? m.told.charAt(at) : -1);
+                    break;
+                case 19: if (random.nextInt(5) == 0) oddTyping(); break;
                 default: reading(); break;
             }
         }
 
+        private void oddTyping() {
+            long packed = 0;
+            for (int i = 0; i < 8; i++) {
+                packed = packed << 8 | (random.nextInt(20) == 0 ? random.nextInt(256) : ":S 0139Ff".charAt(random.nextInt(9)));
+            }
+            int n = orWild(random.nextInt(11) - 1);
+            due("type(" + packed + ", " + n + ")", x.type(packed, n), m.type(packed, n));
+        }
+
         private void telling() {
-            int kind = random.nextInt(2);
-            int wide = 1 + random.nextInt(32);
+            int kind = orWild(random.nextInt(2));
+            int wide = orWild(1 + random.nextInt(32));
             if (random.nextInt(10) == 0) {
                 kind = random.nextInt(5) - 2;
                 wide = random.nextInt(36) - 1;
@@ -157,7 +180,7 @@ public final class HexLoomAgainstModel {
                 }
                 i += n;
             }
-            int asked = random.nextInt(25) == 0 ? 2 : kind;
+            int asked = random.nextInt(25) == 0 ? 2 : orWild(kind);
             int want = m.read(asked);
             if (want >= 0) {
                 faults[want]++;
